@@ -581,6 +581,15 @@ public final class DroneCorridors {
         return (set >> number & 1) != 0;
     }
 
+    private static int lowestOf(int set) {
+        for (int i = 0; i < MAX_NODES; i++) {
+            if (holds(set, i)) {
+                return i;
+            }
+        }
+        return NONE;
+    }
+
     private static boolean isWindFor(int length, int wind) {
         return wind >= -length && wind <= length;
     }
@@ -661,9 +670,7 @@ public final class DroneCorridors {
             case 'p':
                 return world.newNode(true) != NONE;
             case 'c':
-                int second = input.digitAt(at + 3);
-                return world.hasNode(digit) && world.hasNode(second) && digit != second
-                        && world.newCorridor(digit, second, input.digitAt(at + 5), 0) != NONE;
+                return doCorridorEntry(digit, input.digitAt(at + 3), input.digitAt(at + 5));
             case 'd':
                 return world.hasNode(digit) && world.newDrone(digit, TEXT_ENERGY) != NONE;
             case 't':
@@ -675,6 +682,11 @@ public final class DroneCorridors {
             default:
                 return false;
         }
+    }
+
+    private boolean doCorridorEntry(int first, int second, int length) {
+        return world.hasNode(first) && world.hasNode(second) && first != second
+                && world.newCorridor(first, second, length, 0) != NONE;
     }
 
     private static final class Corridor {
@@ -1344,6 +1356,7 @@ public final class DroneCorridors {
         private final int[] readyLeg = new int[MAX_NODES * LAYERS];
         private final int[] readyEnergy = new int[MAX_NODES * LAYERS];
 
+        private int reached;
         private int fromOffset;
         private int fromNode;
         private int fromLayer;
@@ -1400,11 +1413,14 @@ public final class DroneCorridors {
 
         private boolean searchFor(World world, int goals) {
             Arrays.fill(waitingLeg, NONE);
+            reached = 1 << fromNode;
             for (int offset = Math.max(fromOffset, 0); offset <= HORIZON; offset++) {
-                endLegs(world, offset);
-                if (arriveAt(world, offset, goals)) {
+                int ended = endLegs(world, offset);
+                if ((ended & goals) != 0) {
+                    arriveAt(world, offset, lowestOf(ended & goals));
                     return true;
                 }
+                reached |= ended;
                 if (offset < HORIZON) {
                     getReady(world.nodeCount, offset);
                     startLegs(world, offset);
@@ -1427,7 +1443,9 @@ public final class DroneCorridors {
             return energyOfLeg(leg) == NONE ? NONE : leg;
         }
 
-        private void endLegs(World world, int offset) {
+        /** Lets the legs that end at the offset wait behind it, and answers the nodes at which they end. */
+        private int endLegs(World world, int offset) {
+            int ended = 0;
             for (int i = 0; i < world.corridorCount; i++) {
                 Corridor way = world.corridorAt(i);
                 if (way == null) {
@@ -1439,10 +1457,12 @@ public final class DroneCorridors {
                         int leg = legEndingAt(offset, way.length, Closures.laneOf(i, direction, layer));
                         if (leg != NONE) {
                             letWait(leg, slot + layer, energyOfLeg(leg) - offset);
+                            ended |= 1 << way.endOf(direction);
                         }
                     }
                 }
             }
+            return ended;
         }
 
         private void letWait(int leg, int slot, int withEnergy) {
@@ -1465,29 +1485,24 @@ public final class DroneCorridors {
             return corridor < otherCorridor || corridor == otherCorridor && leg / LANES > other / LANES;
         }
 
-        private boolean arriveAt(World world, int offset, int goals) {
+        /** Notes the best of the legs that end at the node then. */
+        private void arriveAt(World world, int offset, int node) {
             int best = NONE;
-            int node = NONE;
+            // With the same energy the lower layer is better, then the lower corridor: these come first here.
             for (int layer = 0; layer < LAYERS; layer++) {
                 for (int i = 0; i < world.corridorCount; i++) {
                     Corridor way = world.corridorAt(i);
-                    for (int direction = 0; way != null && direction < DIRECTIONS; direction++) {
-                        int leg = legEndingAt(offset, way.length, Closures.laneOf(i, direction, layer));
-                        int end = way.endOf(direction);
-                        if (leg == NONE || !holds(goals, end)) {
-                            continue;
-                        }
-                        if (best == NONE || end < node || end == node && energyOfLeg(leg) < energyOfLeg(best)) {
-                            best = leg;
-                            node = end;
-                        }
+                    if (way == null || way.first != node && way.second != node) {
+                        continue;
+                    }
+                    int direction = way.second == node ? FORTH : BACK;
+                    int leg = legEndingAt(offset, way.length, Closures.laneOf(i, direction, layer));
+                    if (leg != NONE && (best == NONE || energyOfLeg(leg) < energyOfLeg(best))) {
+                        best = leg;
                     }
                 }
             }
-            if (best != NONE) {
-                note(best, world.time + offset, energyOfLeg(best), node);
-            }
-            return best != NONE;
+            note(best, world.time + offset, energyOfLeg(best), node);
         }
 
         private void getReady(int nodeCount, int offset) {
@@ -1505,7 +1520,7 @@ public final class DroneCorridors {
                 leg = NONE;
                 least = (isLanded ? 0 : offset - fromOffset) + Math.abs(layer - fromLayer);
             }
-            for (int i = 0; i < LAYERS; i++) {
+            for (int i = 0; i < LAYERS && holds(reached, node); i++) {
                 int slot = node * LAYERS + i;
                 if (slot < 0 || slot >= waitingLeg.length || waitingLeg[slot] == NONE) {
                     continue;
