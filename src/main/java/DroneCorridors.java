@@ -1356,6 +1356,7 @@ public final class DroneCorridors {
         private final int[] readyLeg = new int[MAX_NODES * LAYERS];
         private final int[] readyEnergy = new int[MAX_NODES * LAYERS];
 
+        /** The nodes at which legs have ended. */
         private int reached;
         private int fromOffset;
         private int fromNode;
@@ -1413,7 +1414,7 @@ public final class DroneCorridors {
 
         private boolean searchFor(World world, int goals) {
             Arrays.fill(waitingLeg, NONE);
-            reached = 1 << fromNode;
+            reached = 0;
             for (int offset = Math.max(fromOffset, 0); offset <= HORIZON; offset++) {
                 int ended = endLegs(world, offset);
                 if ((ended & goals) != 0) {

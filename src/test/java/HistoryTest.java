@@ -10,6 +10,9 @@ public final class HistoryTest {
         atMostEight();
         forgetting();
         saving();
+        savingAll();
+        fencesComeBack();
+        nothingOfOldDrones();
         Checks.end();
     }
 
@@ -140,6 +143,65 @@ public final class HistoryTest {
         x.save();
         x.restore();
         Checks.same("restore keeps the input", x.append('n'), 3);
+    }
+
+    /** What was saved comes back over a network, drones and fences that are all different. */
+    private static void savingAll() {
+        DroneCorridors x = rich();
+        x.addFence(1, 2, 70, 80);
+        x.save();
+        String saved = Checks.look(x);
+        x.clear();
+        Checks.write(x, "n;p;n;p;p;c3-2*7;c4-0*1;c0-1*9;t9;");
+        x.read();
+        for (int i = 0; i < 6; i++) {
+            x.addDrone(4 - i % 5, 200 - i);
+        }
+        x.plan(0, 1);
+        x.plan(1, 2);
+        x.addFence(2, 5, 1, 2);
+        x.addFence(0, 3, 4, 5);
+        x.advance(3);
+        x.restore();
+        Checks.sameLook("restore over another network", Checks.look(x), saved);
+        Checks.isTrue("its pads", x.isPad(0) && !x.isPad(1) && x.isPad(2) && !x.isPad(3));
+        DroneCorridors y = rich();
+        y.addFence(1, 2, 70, 80);
+        x.advance(9);
+        y.advance(9);
+        Checks.sameLook("nine ticks behind it", Checks.look(x), Checks.look(y));
+    }
+
+    private static void fencesComeBack() {
+        DroneCorridors x = rich();
+        x.addFence(1, 7, 30, 40);
+        x.addFence(2, 3, 31, 41);
+        String before = Checks.look(x);
+        x.removeFence(0);
+        x.undo();
+        Checks.sameLook("undo of removeFence of the first", Checks.look(x), before);
+        x.removeFence(1);
+        x.undo();
+        Checks.sameLook("undo of removeFence of the second", Checks.look(x), before);
+    }
+
+    private static void nothingOfOldDrones() {
+        DroneCorridors x = rich();
+        x.addFence(1, 3, 0, 100);
+        x.addFence(0, 3, 0, 100);
+        x.plan(2, 0);
+        x.advance(2);
+        x.drain(2, 20);
+        Checks.same("a used drone on layer 2", x.drone(2, 2), 2);
+        DroneCorridors y = new DroneCorridors();
+        x.clear();
+        for (int i = 0; i < 4; i++) {
+            x.addNode(i == 3);
+            y.addNode(i == 3);
+            x.addDrone(i, 9);
+            y.addDrone(i, 9);
+        }
+        Checks.sameLook("drones behind clear", Checks.look(x), Checks.look(y));
     }
 
     private static void saving() {

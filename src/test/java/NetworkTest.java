@@ -132,6 +132,12 @@ public final class NetworkTest {
         Checks.same("drones that fly", y.corridor(0, 6), 0b101);
         y.advance(1);
         Checks.same("drones that do not fly any more", y.corridor(0, 6), 0);
+        y.addNode(true);
+        y.addCorridor(1, 2, 2, 0);
+        y.plan(1, 2);
+        y.advance(3);
+        Checks.same("a drone in corridor 1", y.corridor(1, 6), 0b010);
+        Checks.same("none in corridor 0", y.corridor(0, 6), 0);
     }
 
     private static void winds() {

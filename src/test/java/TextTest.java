@@ -111,8 +111,18 @@ public final class TextTest {
         x.addFence(0, 7, 0, 100);
         refused(x, "t3;c0-1*2;c0-1*2;");
         Checks.same("the corridors", x.count(1), 15);
-        Checks.same("a refused text loses no change", x.undo(), 7);
-        Checks.same("of eight", x.undo(), 6);
+        for (int time = 1; time <= 8; time++) {
+            x.advance(1);
+        }
+        String end = Checks.look(x);
+        refused(x, "n;t3;c0-1*2;c0-1*2;");
+        for (int left = 7; left >= 0; left--) {
+            Checks.same("a refused text loses no change", x.undo(), left);
+            Checks.same("the time before the change", x.count(4), left);
+        }
+        Checks.same("nor does it change an older one", x.drone(0, 1), 100);
+        x.advance(8);
+        Checks.sameLook("the same ticks again", Checks.look(x), end);
         while (x.count(4) < 9992) {
             x.advance(x.count(4) < 9960 ? 40 : 8);
         }
