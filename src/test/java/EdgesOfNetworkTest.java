@@ -28,6 +28,7 @@ public final class EdgesOfNetworkTest {
         noReserveWithoutAPad();
         ticksHaveNoBound();
         noWayBetweenNodes();
+        dronesDoNotMatterForTheNetwork();
         countsOfAllKinds();
         Checks.end();
     }
@@ -469,6 +470,19 @@ public final class EdgesOfNetworkTest {
             Checks.noIndex("from " + node, () -> x.ticksBetween(node, 0));
             Checks.noIndex("to " + node, () -> x.ticksBetween(0, node));
             Checks.noIndex("from and to " + node, () -> x.ticksBetween(node, node));
+        }
+    }
+
+    private static void dronesDoNotMatterForTheNetwork() {
+        DroneCorridors x = Build.chain("pn", 3);
+        for (int i = 0; i < 6; i++) {
+            x.addDrone(i % 2, 100);
+            x.plan(i, 1 - i % 2);
+        }
+        for (int tick = 0; tick < 9; tick++) {
+            Checks.same("the reserve while drones fly", x.reserve(1), 6);
+            Checks.same("the ticks while drones fly", x.ticksBetween(1, 0), 3);
+            x.advance(1);
         }
     }
 

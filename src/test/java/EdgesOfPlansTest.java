@@ -31,8 +31,11 @@ public final class EdgesOfPlansTest {
         lowerCorridorThen();
         laterStartThen();
         legBeforeThen();
+        lowerCorridorOfTheLegBefore();
+        waitingAtNodeZero();
         noLegBeforeIsBetter();
         planFromTheEndOfTheLeg();
+        noLegBeforeTheEndOfTheLeg();
         planToTheEndOfTheLeg();
         planToWhereItIs();
         landsAtOnce();
@@ -508,6 +511,33 @@ public final class EdgesOfPlansTest {
         Build.legIs("the layer that is open", x, 0, 0, 2, 0, 2, 0, 1);
     }
 
+    private static void lowerCorridorOfTheLegBefore() {
+        for (int lowest = 1; lowest < 5; lowest++) {
+            DroneCorridors x = Build.nodes("pnp");
+            x.addCorridor(1, 2, 2, 0);
+            for (int i = 1; i < 6; i++) {
+                x.addCorridor(0, 1, 2, i < lowest ? 0 : 1);
+            }
+            x.addDrone(0, 100);
+            x.plan(0, 2);
+            Build.legIs("the lowest of those for 3", x, 0, 0, lowest, 0, 0, 0, 2);
+        }
+    }
+
+    private static void waitingAtNodeZero() {
+        DroneCorridors x = Build.nodes("npp");
+        x.addCorridor(1, 0, 2, 0);
+        x.addCorridor(0, 2, 2, 0);
+        x.addDrone(1, 100);
+        Checks.same("over node 0 at once", x.arrival(0, 2), 4);
+        x.addFence(1, 7, 0, 7);
+        x.addFence(0, 7, 2, 7);
+        Checks.same("waiting at node 0", x.plan(0, 2), 9);
+        Checks.same("for 5 ticks", x.planEnergy(0, 2), 8 + 5);
+        Build.legIs("there", x, 0, 0, 0, 0, 0, 0, 2);
+        Build.legIs("and on", x, 0, 1, 1, 0, 0, 7, 9);
+    }
+
     private static void noLegBeforeIsBetter() {
         DroneCorridors x = Build.nodes("nnp");
         x.addCorridor(0, 1, 1, 1);
@@ -537,6 +567,22 @@ public final class EdgesOfPlansTest {
         Checks.same("5 is left", x.drone(0, 1), 5);
         Checks.noElement("too little for the way back", () -> x.arrival(0, 0));
         Checks.same("enough for the other one", x.arrival(0, 2), 5);
+    }
+
+    /** What another drone could start earlier is nothing for one that flies until later. */
+    private static void noLegBeforeTheEndOfTheLeg() {
+        DroneCorridors x = Build.chain("pnp", 9, 2);
+        x.addDrone(0, 100);
+        x.addDrone(1, 100);
+        x.plan(0, 1);
+        x.advance(1);
+        for (int now = 1; now < 9; now++) {
+            Checks.same("the other one can start now", x.arrival(1, 2), now + 2);
+            Checks.same("this one behind its leg", x.arrival(0, 2), 11);
+            Checks.same("for nothing but the leg", x.planEnergy(0, 2), 4);
+            Checks.same("its nearest pad", x.nearestPad(0), 2);
+            x.advance(1);
+        }
     }
 
     private static void planToTheEndOfTheLeg() {

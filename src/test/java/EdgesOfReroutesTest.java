@@ -18,10 +18,14 @@ public final class EdgesOfReroutesTest {
         rerouteHeedsLegsThatAreNotStruck();
         rerouteWithLittleEnergy();
         nearestPadAtAPad();
+        nearestPadWhileHoveringAtAPad();
+        nearestPadOfALostDrone();
         nearestPadOfTheLowestNumber();
         nearestPadWithinFortyTicks();
         nearestPadOfAFlyingDrone();
         nearestPadWithoutEnergy();
+        nearestPadHeedsOtherDrones();
+        rerouteFallsBackHeedingOtherDrones();
         Checks.end();
     }
 
@@ -290,6 +294,37 @@ public final class EdgesOfReroutesTest {
         Checks.same("even without energy", x.nearestPad(0), 1);
     }
 
+    /** Pads 0 and 2, and node 1 and 3; a drone that hovers at pad 2 on its way from 1 to 3. */
+    private static DroneCorridors hoveringAtPadTwo() {
+        DroneCorridors x = Build.nodes("pnpn");
+        x.addCorridor(1, 2, 2, 0);
+        x.addCorridor(2, 3, 2, 0);
+        x.addCorridor(2, 0, 1, 1);
+        x.addDrone(1, 100);
+        x.addFence(0, 7, 2, 100);
+        x.addFence(1, 7, 0, 9);
+        x.plan(0, 3);
+        x.advance(3);
+        Build.droneIs("hovering at pad 2", x, 0, 1, 95, 0, 2, 3, 1, 11);
+        return x;
+    }
+
+    /** A pad at which a drone is counts for nearestPad, with the present time as the arrival. */
+    private static void nearestPadWhileHoveringAtAPad() {
+        DroneCorridors x = hoveringAtPadTwo();
+        Checks.same("where it is, not the lower pad a tick away", x.nearestPad(0), 2);
+        x.drain(0, 94);
+        Checks.same("with 1, too", x.nearestPad(0), 2);
+        Checks.same("to ask is no landing", x.drone(0, 0), 1);
+    }
+
+    private static void nearestPadOfALostDrone() {
+        DroneCorridors x = hoveringAtPadTwo();
+        x.drain(0, 95);
+        Checks.same("lost at a pad", x.drone(0, 0) * 10 + x.drone(0, 3), 32);
+        Checks.noElement("nothing is planned for it", () -> x.nearestPad(0));
+    }
+
     private static void nearestPadOfTheLowestNumber() {
         for (int lower = 1; lower <= 3; lower++) {
             DroneCorridors x = Build.nodes("nppp");
@@ -350,5 +385,41 @@ public final class EdgesOfReroutesTest {
         Checks.same("the one for 3 with 3", x.nearestPad(0), 2);
         x.drain(0, 1);
         Checks.noElement("none with 2", () -> x.nearestPad(0));
+    }
+
+    /** Node 0, pads 1 and 2 at 2 ticks on one layer each; another drone comes from pad 1, and is there in flight. */
+    private static DroneCorridors withAnOppositeDrone() {
+        DroneCorridors x = Build.nodes("nppn");
+        x.addCorridor(0, 1, 2, 0);
+        x.addCorridor(0, 2, 3, 0);
+        x.addCorridor(0, 3, 1, 0);
+        Build.close(x, 0, 6);
+        x.addDrone(0, 100);
+        x.addDrone(1, 100);
+        x.plan(1, 0);
+        return x;
+    }
+
+    private static void nearestPadHeedsOtherDrones() {
+        DroneCorridors x = withAnOppositeDrone();
+        Checks.same("beside the other drone it is nearer", x.nearestPad(0), 2);
+        x.advance(1);
+        Checks.same("while that flies, too", x.nearestPad(0), 1);
+        x.undo();
+        x.cancel(1);
+        Checks.same("without the other drone", x.nearestPad(0), 1);
+    }
+
+    private static void rerouteFallsBackHeedingOtherDrones() {
+        DroneCorridors x = withAnOppositeDrone();
+        x.plan(0, 3);
+        Build.close(x, 2, 7);
+        Checks.same("it cannot keep its destination", x.reroute(), 0);
+        Checks.same("the pad nearer beside the other drone", x.drone(0, 4), 2);
+        Checks.same("separated", x.pairs(false), 0);
+        x.undo();
+        x.cancel(1);
+        x.reroute();
+        Checks.same("the pad nearer without the other drone", x.drone(0, 4), 1);
     }
 }

@@ -28,6 +28,7 @@ public final class EdgesOfTicksTest {
         placeOfADroneThatWillNotStart();
         pairsOfLegs();
         pairsOfDifferentDrones();
+        pairsOfOppositeLegs();
         usesOfLayers();
         accountsFromZeroToFour();
         accountsAddUp();
@@ -406,6 +407,17 @@ public final class EdgesOfTicksTest {
         x.plan(1, 2);
         Checks.same("another drone on the same layer", x.leg(1, 0, 2) * 10 + x.leg(1, 0, 0), 0);
         Checks.same("makes four pairs", x.pairs(true), 4);
+    }
+
+    private static void pairsOfOppositeLegs() {
+        DroneCorridors x = Build.chain("pp", 1);
+        Build.close(x, 0, 6);
+        x.addDrone(0, 100);
+        x.addDrone(1, 100);
+        x.plan(0, 1);
+        x.plan(1, 0);
+        Checks.same("one ends at the start of the other", x.leg(0, 0, 4) * 10 + x.leg(1, 0, 3), 11);
+        Checks.same("so they are separated", x.pairs(true) * 10 + x.pairs(false), 10);
     }
 
     private static void usesOfLayers() {

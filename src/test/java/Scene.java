@@ -2,11 +2,12 @@ import java.util.ArrayList;
 import java.util.List;
 
 /**
- * What the document says, done over again in the plainest way: plans by trying all of them, ticks drone by drone.
+ * What the document says, done over again in the plainest way: plans by trying all of them, or, where these are too
+ * many, by growing whole plans tick by tick; ticks drone by drone.
  * A scene is read from an object by its face, changed here, and compared with what the object became.
  */
 final class Scene {
-    static final class TooHard extends RuntimeException {
+    private static final class TooHard extends RuntimeException {
         private static final long serialVersionUID = 1L;
     }
 
@@ -27,7 +28,11 @@ final class Scene {
         final List<int[]> legs = new ArrayList<>();
     }
 
-    private static final int MOST_EFFORT = 300000;
+    private static final int MOST_EFFORT = 100000;
+
+    /** How many plans were found by trying all, and how many by growing. */
+    static int tried = 0;
+    static int grown = 0;
 
     int time;
     boolean[] pads;
@@ -186,14 +191,97 @@ final class Scene {
         if (reserves[target] < 0) {
             return null;
         }
+        try {
+            Plan found = tryAll(number, target, empty.arrival, withFences, withOthers);
+            tried++;
+            return found;
+        } catch (TooHard e) {
+            grown++;
+            return grow(number, target, empty.arrival, withFences, withOthers);
+        }
+    }
+
+    private Plan tryAll(int number, int target, int from, boolean withFences, boolean withOthers) {
+        Flyer flyer = flyers.get(number);
+        int[] reserves = reserves();
         int[][] ticks = distances(true);
         effort = 0;
         best = null;
-        for (int end = empty.arrival + 1; end <= time + 40 && best == null; end++) {
+        for (int end = from + 1; end <= time + 40 && best == null; end++) {
             tryLegs(new int[] {number, target, end, withFences ? 1 : 0, withOthers ? 1 : 0}, reserves, ticks,
-                    empty.legs, new int[] {empty.arrival, flyer.node, flyer.layer, 0});
+                    new ArrayList<>(), new int[] {from, flyer.node, flyer.layer, 0});
         }
         return best;
+    }
+
+    /** Keeps, for each time, node and layer, the best plan whose last leg ends there, as a whole. */
+    private Plan grow(int number, int target, int from, boolean withFences, boolean withOthers) {
+        Flyer flyer = flyers.get(number);
+        int[] reserves = reserves();
+        Plan[][][] ends = new Plan[41][pads.length][3];
+        Plan none = new Plan();
+        none.arrival = from;
+        for (int start = from; start < time + 40; start++) {
+            for (int layer = 0; layer < 3; layer++) {
+                if (ends[start - time][target][layer] != null) {
+                    return bestOf(ends[start - time][target]);
+                }
+            }
+            for (int corridor = 0; corridor < corridors.length; corridor++) {
+                for (int lane = 0; lane < 6; lane++) {
+                    int[] way = corridors[corridor];
+                    int[] leg = {corridor, lane / 3, lane % 3, start, start + way[2]};
+                    int to = way[1 - leg[1]];
+                    if (leg[4] > time + 40 || !allowed(number, leg, withFences, withOthers) || reserves[to] < 0) {
+                        continue;
+                    }
+                    Plan plan = way[leg[1]] == flyer.node ? longer(none, leg, flyer) : null;
+                    for (int end = from; end <= start; end++) {
+                        for (int layer = 0; layer < 3; layer++) {
+                            plan = betterOf(plan, longer(ends[end - time][way[leg[1]]][layer], leg, flyer));
+                        }
+                    }
+                    if (plan != null && flyer.energy - plan.energy >= reserves[to]) {
+                        Plan[] there = ends[leg[4] - time][to];
+                        there[leg[2]] = betterOf(there[leg[2]], plan);
+                    }
+                }
+            }
+        }
+        return bestOf(ends[40][target]);
+    }
+
+    private static Plan bestOf(Plan[] plans) {
+        Plan best = null;
+        for (Plan plan : plans) {
+            best = betterOf(best, plan);
+        }
+        return best;
+    }
+
+    private static Plan betterOf(Plan one, Plan other) {
+        if (one == null || other == null) {
+            return one == null ? other : one;
+        }
+        if (one.energy != other.energy) {
+            return one.energy < other.energy ? one : other;
+        }
+        return isBetterFromTheEnd(other.legs, one.legs) ? other : one;
+    }
+
+    private Plan longer(Plan plan, int[] leg, Flyer flyer) {
+        if (plan == null) {
+            return null;
+        }
+        boolean isFirst = plan.legs.isEmpty();
+        int layer = isFirst ? flyer.layer : plan.legs.get(plan.legs.size() - 1)[2];
+        Plan longer = new Plan();
+        longer.legs.addAll(plan.legs);
+        longer.legs.add(leg);
+        longer.arrival = leg[4];
+        longer.energy = plan.energy + (isFirst && flyer.state == 0 ? 0 : leg[3] - plan.arrival)
+                + Math.abs(leg[2] - layer) + flightEnergy(leg[0], leg[1]);
+        return longer;
     }
 
     /** Tries all legs behind those before; at tells the time, the node, the layer and the energy taken. */
