@@ -387,7 +387,7 @@ public final class EdgesOfReroutesTest {
         Checks.noElement("none with 2", () -> x.nearestPad(0));
     }
 
-    /** Node 0, pads 1 and 2 at 2 ticks on one layer each; another drone comes from pad 1, and is there in flight. */
+    /** A drone at node 0; pad 1 at 2 ticks on one layer, on which another drone comes, and pad 2 at 3 ticks. */
     private static DroneCorridors withAnOppositeDrone() {
         DroneCorridors x = Build.nodes("nppn");
         x.addCorridor(0, 1, 2, 0);
